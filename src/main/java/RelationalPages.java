@@ -114,8 +114,8 @@ public final class RelationalPages {
         return endTransaction();
     }
 
-    // No answer depends on an index, and a table of 24 rows is read through as fast as an index
-    // on it would be kept, so there is nothing to hold: only the arguments are looked at.
+    // The document lets no other answer depend on an index and promises no speed, so none is held:
+    // an index beside the rows could only come to disagree with them.
     public boolean index(int t, int column, boolean on) {
         return isTable(t) && isColumn(column);
     }
