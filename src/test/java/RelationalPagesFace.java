@@ -10,21 +10,13 @@ import java.util.regex.Matcher;
 import java.util.regex.Pattern;
 
 /** The public face of the document, and those rules of LANGUAGE.md that a program can look up. */
-public final class RelationalPagesFace {
+public final class RelationalPagesFace extends Checks {
     private static final String SOURCE = "src/main/java/RelationalPages.java";
     private static final String FORBIDDEN = "import|package|throw|throws|try|catch|finally|synchronized|assert"
             + "|instanceof|null|float|double|String|Math|Integer|Long|System|Arrays|Object|enum|interface|record"
             + "|protected|volatile|native|var";
     private static final Set<String> TYPES = Set.of("int", "long", "short", "byte", "char", "boolean",
             "int[]", "long[]", "short[]", "byte[]", "char[]", "boolean[]");
-    private static int wrong = 0;
-
-    private static void due(String what, Object got, Object want) {
-        if (!got.equals(want)) {
-            wrong++;
-            System.out.println(what + ": " + got + ", due is " + want);
-        }
-    }
 
     public static void main(String[] args) throws Exception {
         theClass();
@@ -33,13 +25,11 @@ public final class RelationalPagesFace {
         theMethods();
         thePrivateMembers();
         theSource();
-        System.out.println(wrong == 0 ? "the face is as due" : wrong + " things are not as due");
-        if (wrong != 0) {
-            System.exit(1);
-        }
+        finish();
     }
 
     private static void theClass() {
+        about("The public face", "public final class RelationalPages");
         int modifiers = RelationalPages.class.getModifiers();
         due("modifiers of the class", Modifier.toString(modifiers), "public final");
         due("nested classes", RelationalPages.class.getDeclaredClasses().length, 0);
@@ -48,6 +38,7 @@ public final class RelationalPagesFace {
     }
 
     private static void theConstants() {
+        about("The public face", "BAD = -1000; FULL = -2000");
         due("BAD", RelationalPages.BAD, -1000);
         due("FULL", RelationalPages.FULL, -2000);
         Set<String> seen = new TreeSet<>();
@@ -62,6 +53,7 @@ public final class RelationalPagesFace {
     }
 
     private static void theConstructor() {
+        about("The public face", "public RelationalPages()");
         Set<String> seen = new TreeSet<>();
         for (Constructor<?> constructor : RelationalPages.class.getDeclaredConstructors()) {
             seen.add(constructor.toString());
@@ -70,6 +62,7 @@ public final class RelationalPagesFace {
     }
 
     private static void theMethods() {
+        about("The public face", "the public face");
         Set<String> seen = new TreeSet<>();
         for (Method method : RelationalPages.class.getDeclaredMethods()) {
             if (!Modifier.isPrivate(method.getModifiers())) {
@@ -96,6 +89,7 @@ public final class RelationalPagesFace {
     }
 
     private static void thePrivateMembers() {
+        about("LANGUAGE.md", "rules 1, 2, 4, 5 and 10");
         int fields = 0;
         for (Field field : RelationalPages.class.getDeclaredFields()) {
             String type = field.getType().getSimpleName();
@@ -117,6 +111,7 @@ public final class RelationalPagesFace {
     }
 
     private static void theSource() throws Exception {
+        about("LANGUAGE.md", "rules 2, 3, 4 and 6");
         String text = Files.readString(Path.of(SOURCE));
         String code = text.replaceAll("(?s)/\\*.*?\\*/", " ").replaceAll("//[^\n]*", " ");
         Matcher found = Pattern.compile("\\b(?:" + FORBIDDEN + ")\\b|->|::").matcher(code);

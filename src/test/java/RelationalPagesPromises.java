@@ -1,58 +1,5 @@
 /** For each promise of the document: ordinary inputs, the edges that it names, and wrong inputs. */
-public final class RelationalPagesPromises {
-    private static final int BAD = -1000;
-    private static final int FULL = -2000;
-    private static final int MIN = Integer.MIN_VALUE;
-    private static final int MAX = Integer.MAX_VALUE;
-    /** The condition that every row meets. */
-    private static final int ALL = 12;
-    private static final int[] NO_TABLE_OR_COLUMN = {-1, 3, MIN, MAX};
-    private static final int[] NO_CONDITION = {-1, 15, MIN, MAX};
-    private static final int[] NO_PAIR = {-1, 9, MIN, MAX};
-
-    private static int wrong = 0;
-    private static int promise = 0;
-
-    private static void due(String call, long got, long want) {
-        if (got != want) {
-            wrong++;
-            System.out.println("promise " + promise + ": " + call + " answered " + got + ", due is " + want);
-        }
-    }
-
-    private static void due(String call, boolean got, boolean want) {
-        due(call, got ? 1 : 0, want ? 1 : 0);
-    }
-
-    private static int set(int column, int number) {
-        return column + 3 * (number + 99);
-    }
-
-    private static RelationalPages filled(int t, int... numbers) {
-        RelationalPages x = new RelationalPages();
-        put(x, t, numbers);
-        return x;
-    }
-
-    private static void put(RelationalPages x, int t, int... numbers) {
-        for (int i = 0; i < numbers.length; i += 3) {
-            x.insert(t, numbers[i], numbers[i + 1], numbers[i + 2]);
-        }
-    }
-
-    /** Looks whether table t has just these rows; they are given in order. */
-    private static void dueRows(String what, RelationalPages x, int t, int... numbers) {
-        due(what + ": rows of table " + t, x.select(t, ALL, 0, 0), numbers.length / 3);
-        dueResult(what, x, numbers);
-    }
-
-    private static void dueResult(String what, RelationalPages x, int... numbers) {
-        for (int i = 0; i < numbers.length; i++) {
-            due(what + ": row(" + i / 3 + ", " + i % 3 + ")", x.row(i / 3, i % 3), numbers[i]);
-        }
-        due(what + ": row after the last", x.row(numbers.length / 3, 0), BAD);
-    }
-
+public final class RelationalPagesPromises extends Checks {
     public static void main(String[] args) {
         promise1New();
         promise2Insert();
@@ -75,14 +22,11 @@ public final class RelationalPagesPromises {
         promise15JoinSum();
         promise16Distinct();
         promise17Kth();
-        System.out.println(wrong == 0 ? "all promises hold" : wrong + " answers are not as due");
-        if (wrong != 0) {
-            System.exit(1);
-        }
+        finish();
     }
 
     private static void promise1New() {
-        promise = 1;
+        about(1, "a new object");
         RelationalPages x = new RelationalPages();
         due("row of the empty result", x.row(0, 0), BAD);
         for (int t = 0; t < 3; t++) {
@@ -99,7 +43,7 @@ public final class RelationalPagesPromises {
     }
 
     private static void promise2Insert() {
-        promise = 2;
+        about(2, "insert");
         RelationalPages x = new RelationalPages();
         due("first row", x.insert(0, 1, 2, 3), 1);
         due("a row alike", x.insert(0, 1, 2, 3), 2);
@@ -144,7 +88,7 @@ public final class RelationalPagesPromises {
     }
 
     private static void promise3Delete() {
-        promise = 3;
+        about(3, "delete");
         RelationalPages x = filled(1, 1, 5, 9, 2, 5, 8, 3, 6, 7, 3, 6, 7);
         put(x, 0, 1, 5, 9);
         due("none meets", x.delete(1, 0, 4), 0);
@@ -188,7 +132,7 @@ public final class RelationalPagesPromises {
     }
 
     private static void promise4Update() {
-        promise = 4;
+        about(4, "update");
         RelationalPages x = filled(0, 1, 5, 9, 2, 5, 8, 3, 6, 7);
         put(x, 1, 1, 5, 9);
         due("column 2 where column 1 is 5", x.update(0, 1, 5, set(2, -4)), 2);
@@ -234,7 +178,7 @@ public final class RelationalPagesPromises {
     }
 
     private static void promise5Begin() {
-        promise = 5;
+        about(5, "begin");
         RelationalPages x = filled(0, 1, 1, 1);
         due("begin", x.begin(), true);
         x.insert(0, 2, 2, 2);
@@ -254,7 +198,7 @@ public final class RelationalPagesPromises {
     }
 
     private static void promise6Commit() {
-        promise = 6;
+        about(6, "commit");
         RelationalPages x = filled(0, 1, 1, 1, 2, 2, 2);
         due("none open", x.commit(), BAD);
         x.begin();
@@ -277,7 +221,7 @@ public final class RelationalPagesPromises {
     }
 
     private static void promise7Rollback() {
-        promise = 7;
+        about(7, "rollback");
         RelationalPages x = filled(0, 1, 1, 1, 2, 2, 2);
         put(x, 1, 3, 3, 3);
         due("none open", x.rollback(), BAD);
@@ -308,7 +252,7 @@ public final class RelationalPagesPromises {
     }
 
     private static void promise8Crash() {
-        promise = 8;
+        about(8, "crash");
         RelationalPages x = filled(0, 1, 1, 1);
         x.select(0, ALL, 0, 0);
         due("none open", x.crash(), 0);
@@ -337,7 +281,7 @@ public final class RelationalPagesPromises {
     }
 
     private static void promise9Index() {
-        promise = 9;
+        about(9, "index");
         RelationalPages x = filled(0, 3, 1, 1, 1, 2, 2, 2, 3, 3);
         for (int t = 0; t < 3; t++) {
             for (int column = 0; column < 3; column++) {
@@ -368,7 +312,7 @@ public final class RelationalPagesPromises {
     }
 
     private static void promise10Select() {
-        promise = 10;
+        about(10, "select");
         RelationalPages x = filled(0, 2, 9, 5, 1, 9, 5, 2, 8, 5, 2, 8, 4, 1, 9, 5, -3, 0, 6);
         due("order 0", x.select(0, ALL, 0, 0), 6);
         dueResult("order 0", x, -3, 0, 6, 1, 9, 5, 1, 9, 5, 2, 8, 4, 2, 8, 5, 2, 9, 5);
@@ -415,7 +359,7 @@ public final class RelationalPagesPromises {
     }
 
     private static void promise11Row() {
-        promise = 11;
+        about(11, "row");
         RelationalPages x = filled(0, 1, 2, 3, 4, 5, 6);
         due("before any selection", x.row(0, 0), BAD);
         x.select(0, ALL, 0, 0);
@@ -431,7 +375,7 @@ public final class RelationalPagesPromises {
     }
 
     private static void promise12Count() {
-        promise = 12;
+        about(12, "count");
         RelationalPages x = filled(0, -2, 0, 99, 0, 0, 99, 0, 1, -99, 5, 1, 99);
         int[] atZero = {2, 2, 0, 1, 0, 1, 1, 2, 3, 2, 2, 4, 4, 4, 4};
         for (int condition = 0; condition < 15; condition++) {
@@ -453,7 +397,7 @@ public final class RelationalPagesPromises {
     }
 
     private static void promise13Sum() {
-        promise = 13;
+        about(13, "sum");
         RelationalPages x = filled(0, 1, 10, -5, 2, 20, -6, 3, 30, 99, 3, 30, 99);
         due("column 0", x.sum(0, 0, ALL, 0), 9);
         due("column 1", x.sum(0, 1, ALL, 0), 90);
@@ -474,7 +418,7 @@ public final class RelationalPagesPromises {
     }
 
     private static void promise14Join() {
-        promise = 14;
+        about(14, "join");
         RelationalPages x = filled(0, 1, 4, 7, 1, 5, 8, 2, 5, 9);
         put(x, 1, 5, 1, 2, 6, 1, 7, 5, 9, 9);
         int[] pairs = {0, 4, 0, 4, 0, 1, 1, 0, 2};
@@ -497,13 +441,13 @@ public final class RelationalPagesPromises {
             full.insert(0, 99, -99, 0);
         }
         due("24 * 24 pairs", full.join(0, 0, 0), 576);
-        promise = 15;
+        about(15, "joinSum");
         due("greatest sum", full.joinSum(0, 0, 0, 0), 576 * 9801);
         due("least sum", full.joinSum(0, 0, 0, 3), -576 * 9801);
     }
 
     private static void promise15JoinSum() {
-        promise = 15;
+        about(15, "joinSum");
         RelationalPages x = filled(0, 1, 10, 100 - 1, 2, 20, 50);
         put(x, 1, 1, 3, 5, 1, 4, 6, 2, -7, 8);
         int[] sums = {1 + 1 + 4, 10 + 10 + 40, 99 + 99 + 100,
@@ -528,7 +472,7 @@ public final class RelationalPagesPromises {
     }
 
     private static void promise16Distinct() {
-        promise = 16;
+        about(16, "distinct");
         RelationalPages x = filled(0, 1, 7, -99, 2, 7, 99, 1, 7, 0, 3, 7, -99);
         due("column 0", x.distinct(0, 0), 3);
         due("column 1", x.distinct(0, 1), 1);
@@ -549,7 +493,7 @@ public final class RelationalPagesPromises {
     }
 
     private static void promise17Kth() {
-        promise = 17;
+        about(17, "kth");
         RelationalPages x = filled(0, 4, 7, -99, -2, 7, 99, 4, 7, 0, 9, 7, -99);
         int[] column0 = {-2, 4, 9, BAD};
         int[] column1 = {7, BAD, BAD, BAD};
