@@ -3,44 +3,8 @@ import java.util.function.ToIntFunction;
 
 /** The edges that promises 1 to 9 name, sentence by sentence. */
 public final class RelationalPagesChangeEdges extends Checks {
-    public static void main(String[] args) {
-        newTablesAreEmpty();
-        newHasNoTransaction();
-        newHasNoIndex();
-        newHasAnEmptyResult();
-        insertAnswersTheNumberOfRows();
-        insertIntoNoTable();
-        insertOfNoNumber();
-        insertIntoAFullTable();
-        insertAfter30Changes();
-        insertTestsBadFirst();
-        deleteTakesAllOut();
-        deleteAnswersHowMany();
-        deleteIsBad();
-        deleteIsFull();
-        deleteTestsBadFirst();
-        updateWritesEverySet();
-        updateWritesAllThatMeet();
-        updateAnswersHowMany();
-        updateIsBad();
-        updateIsFull();
-        updateTestsBadFirst();
-        beginOpens();
-        beginWhileOpen();
-        commitKeeps();
-        commitAnswersHowMany();
-        commitWithoutATransaction();
-        rollbackBringsBack();
-        rollbackAnswersHowMany();
-        rollbackWithoutATransaction();
-        crashEndsTheTransaction();
-        crashEmptiesTheResult();
-        crashAnswersHowMany();
-        crashWithoutATransaction();
-        indexAnswersTrue();
-        indexAnswersFalse();
-        indexChangesNoAnswer();
-        finish();
+    public static void main(String[] args) throws Exception {
+        runAll(RelationalPagesChangeEdges.class);
     }
 
     private static void newTablesAreEmpty() {
@@ -122,17 +86,17 @@ public final class RelationalPagesChangeEdges extends Checks {
 
     private static void insertIntoNoTable() {
         about(2, "BAD when t is not 0 .. 2");
-        dueBad("table", NO_TABLE_OR_COLUMN, (x, n) -> x.insert(n, 1, 1, 1));
+        dueRange("table", 0, 2, (x, n) -> x.insert(n, 1, 1, 1));
         due("table 0", new RelationalPages().insert(0, 1, 1, 1), 1);
         due("table 2", new RelationalPages().insert(2, 1, 1, 1), 1);
     }
 
     private static void insertOfNoNumber() {
         about(2, "or a number is not -99 .. 99");
-        dueBad("a", NO_NUMBER, (x, n) -> x.insert(0, n, 1, 1));
-        dueBad("b", NO_NUMBER, (x, n) -> x.insert(0, 1, n, 1));
-        dueBad("c", NO_NUMBER, (x, n) -> x.insert(0, 1, 1, n));
-        dueBad("all", NO_NUMBER, (x, n) -> x.insert(0, n, n, n));
+        dueRange("a", -99, 99, (x, n) -> x.insert(0, n, 1, 1));
+        dueRange("b", -99, 99, (x, n) -> x.insert(0, 1, n, 1));
+        dueRange("c", -99, 99, (x, n) -> x.insert(0, 1, 1, n));
+        dueRange("all", -99, 99, (x, n) -> x.insert(0, n, n, n));
         for (int n : new int[] {-99, 99}) {
             due("a " + n, new RelationalPages().insert(0, n, 1, 1), 1);
             due("b " + n, new RelationalPages().insert(0, 1, n, 1), 1);
@@ -147,6 +111,7 @@ public final class RelationalPagesChangeEdges extends Checks {
             due("at 23 rows", withMany(t, 23).insert(t, 1, 1, 1), 24);
             dueUnchanged("at 24 rows", () -> withMany(full, 24), x -> x.insert(full, 1, 1, 1), FULL);
             due("another table", withMany(t, 24).insert((t + 1) % 3, 1, 1, 1), 1);
+            due("the third table", withMany(t, 24).insert((t + 2) % 3, 1, 1, 1), 1);
         }
         dueUnchanged("in a transaction", () -> opened(2, 0, 24), x -> x.insert(0, 1, 1, 1), FULL);
         due("another table in a transaction", opened(2, 0, 24).insert(1, 1, 1, 1), 1);
@@ -180,15 +145,15 @@ public final class RelationalPagesChangeEdges extends Checks {
 
     private static void insertTestsBadFirst() {
         about(2, "Tested in this order: BAD [..]; FULL");
-        dueBadFirst("table", NO_TABLE_OR_COLUMN, (x, n) -> x.insert(n, 0, 0, 0));
-        dueBadFirst("a", NO_NUMBER, (x, n) -> x.insert(0, n, 0, 0));
-        dueBadFirst("b", NO_NUMBER, (x, n) -> x.insert(0, 0, n, 0));
-        dueBadFirst("c", NO_NUMBER, (x, n) -> x.insert(0, 0, 0, n));
+        dueBadFirst("table", outside(0, 2), (x, n) -> x.insert(n, 0, 0, 0));
+        dueBadFirst("a", outside(-99, 99), (x, n) -> x.insert(0, n, 0, 0));
+        dueBadFirst("b", outside(-99, 99), (x, n) -> x.insert(0, 0, n, 0));
+        dueBadFirst("c", outside(-99, 99), (x, n) -> x.insert(0, 0, 0, n));
     }
 
     private static RelationalPages threeTables() {
         RelationalPages x = filled(0, 1, 1, 1);
-        put(x, 1, 1, 5, 0, 2, 6, 0, 1, 7, 0, 3, 8, 0, 1, 9, 0);
+        put(x, 1, 1, 5, 20, 2, 6, 21, 1, 7, 22, 3, 8, 23, 1, 9, 24);
         put(x, 2, 1, 2, 2);
         return x;
     }
@@ -197,15 +162,15 @@ public final class RelationalPagesChangeEdges extends Checks {
         about(3, "Takes all rows of table t that meet the condition out");
         RelationalPages x = threeTables();
         due("first, middle and last", x.delete(1, 0, 1), 3);
-        dueRows("the others stay", x, 1, 2, 6, 0, 3, 8, 0);
+        dueRows("the others stay", x, 1, 2, 6, 21, 3, 8, 23);
         dueRows("the table before", x, 0, 1, 1, 1);
         dueRows("the table after", x, 2, 1, 2, 2);
         RelationalPages y = threeTables();
         due("all but the first", y.delete(1, 7, 5), 4);
-        dueRows("the first stays", y, 1, 1, 5, 0);
+        dueRows("the first stays", y, 1, 1, 5, 20);
         RelationalPages z = threeTables();
         due("all but the last", z.delete(1, 4, 9), 4);
-        dueRows("the last stays", z, 1, 1, 9, 0);
+        dueRows("the last stays", z, 1, 1, 9, 24);
         due("the last one", z.delete(1, ALL, 0), 1);
         dueRows("none stays", z, 1);
     }
@@ -220,7 +185,7 @@ public final class RelationalPagesChangeEdges extends Checks {
             int of = t;
             dueUnchanged("none meets", () -> withMany(of, 24), x -> x.delete(of, 0, 24), 0);
         }
-        for (int v : NO_NUMBER) {
+        for (int v : outside(-99, 99)) {
             due("v " + v + " is no wrong input", withMany(0, 24).delete(0, 9, v), 24);
         }
     }
@@ -235,8 +200,8 @@ public final class RelationalPagesChangeEdges extends Checks {
 
     private static void deleteIsBad() {
         about(3, "BAD when t is not 0 .. 2 or condition is not 0 .. 14");
-        dueBad("table", NO_TABLE_OR_COLUMN, (x, n) -> x.delete(n, ALL, 0));
-        dueBad("condition", NO_CONDITION, (x, n) -> x.delete(0, n, 0));
+        dueRange("table", 0, 2, (x, n) -> x.delete(n, ALL, 0));
+        dueRange("condition", 0, 14, (x, n) -> x.delete(0, n, 0));
         due("condition 0", withMany(0, 3).delete(0, 0, 2), 1);
         due("condition 14", withMany(0, 3).delete(0, 14, 2), 3);
         due("table 0", withMany(0, 3).delete(0, ALL, 0), 3);
@@ -272,8 +237,8 @@ public final class RelationalPagesChangeEdges extends Checks {
 
     private static void deleteTestsBadFirst() {
         about(3, "Tested in this order: BAD [..]; FULL");
-        dueBadFirst("table", NO_TABLE_OR_COLUMN, (x, n) -> x.delete(n, ALL, 0));
-        dueBadFirst("condition", NO_CONDITION, (x, n) -> x.delete(0, n, 0));
+        dueBadFirst("table", outside(0, 2), (x, n) -> x.delete(n, ALL, 0));
+        dueBadFirst("condition", outside(0, 14), (x, n) -> x.delete(0, n, 0));
     }
 
     private static void updateWritesEverySet() {
@@ -291,12 +256,12 @@ public final class RelationalPagesChangeEdges extends Checks {
         about(4, "Writes w into column x of all rows of table t that meet the condition");
         RelationalPages x = threeTables();
         due("first, middle and last", x.update(1, 0, 1, set(2, -99)), 3);
-        dueRows("the others stay", x, 1, 1, 5, -99, 1, 7, -99, 1, 9, -99, 2, 6, 0, 3, 8, 0);
+        dueRows("the others stay", x, 1, 1, 5, -99, 1, 7, -99, 1, 9, -99, 2, 6, 21, 3, 8, 23);
         dueRows("the table before", x, 0, 1, 1, 1);
         dueRows("the table after", x, 2, 1, 2, 2);
         RelationalPages y = threeTables();
         due("the column of the condition", y.update(1, 4, 8, set(1, 99)), 3);
-        dueRows("written", y, 1, 1, 9, 0, 1, 99, 0, 1, 99, 0, 2, 99, 0, 3, 8, 0);
+        dueRows("written", y, 1, 1, 9, 24, 1, 99, 20, 1, 99, 22, 2, 99, 21, 3, 8, 23);
         due("still meeting it", y.update(1, 7, 50, set(1, 98)), 3);
         due("all 24", withMany(2, 24).update(2, ALL, 0, 0), 24);
     }
@@ -311,17 +276,17 @@ public final class RelationalPagesChangeEdges extends Checks {
             due("what was there already", withMany(t, 24).update(t, ALL, 0, set(1, 0)), 24);
             dueUnchanged("none meets", () -> withMany(of, 24), x -> x.update(of, 0, 24, 0), 0);
         }
-        for (int v : NO_NUMBER) {
+        for (int v : outside(-99, 99)) {
             due("v " + v + " is no wrong input", withMany(0, 24).update(0, 9, v, 0), 24);
         }
     }
 
     private static void updateIsBad() {
         about(4, "BAD when t is not 0 .. 2, condition is not 0 .. 14 or set is not so");
-        dueBad("table", NO_TABLE_OR_COLUMN, (x, n) -> x.update(n, ALL, 0, 0));
-        dueBad("condition", NO_CONDITION, (x, n) -> x.update(0, n, 0, 0));
-        dueBad("set", NO_SET, (x, n) -> x.update(0, ALL, 0, n));
-        dueBad("set, when none meets,", NO_SET, (x, n) -> x.update(0, 0, 77, n));
+        dueRange("table", 0, 2, (x, n) -> x.update(n, ALL, 0, 0));
+        dueRange("condition", 0, 14, (x, n) -> x.update(0, n, 0, 0));
+        dueRange("set", 0, 596, (x, n) -> x.update(0, ALL, 0, n));
+        dueRange("set, when none meets,", 0, 596, (x, n) -> x.update(0, 0, 77, n));
         due("condition 0", withMany(0, 3).update(0, 0, 2, 0), 1);
         due("condition 14", withMany(0, 3).update(0, 14, 2, 596), 3);
         due("table 0", withMany(0, 3).update(0, ALL, 0, 596), 3);
@@ -336,9 +301,9 @@ public final class RelationalPagesChangeEdges extends Checks {
 
     private static void updateTestsBadFirst() {
         about(4, "Tested in this order: BAD [..]; FULL");
-        dueBadFirst("table", NO_TABLE_OR_COLUMN, (x, n) -> x.update(n, ALL, 0, 0));
-        dueBadFirst("condition", NO_CONDITION, (x, n) -> x.update(0, n, 0, 0));
-        dueBadFirst("set", NO_SET, (x, n) -> x.update(0, ALL, 0, n));
+        dueBadFirst("table", outside(0, 2), (x, n) -> x.update(n, ALL, 0, 0));
+        dueBadFirst("condition", outside(0, 14), (x, n) -> x.update(0, n, 0, 0));
+        dueBadFirst("set", outside(0, 596), (x, n) -> x.update(0, ALL, 0, n));
     }
 
     private static int beginOf(RelationalPages x) {
@@ -538,7 +503,7 @@ public final class RelationalPagesChangeEdges extends Checks {
 
     private static void indexAnswersFalse() {
         about(9, "false when t or column is not 0 .. 2");
-        for (int n : NO_TABLE_OR_COLUMN) {
+        for (int n : outside(0, 2)) {
             for (int on = 0; on < 2; on++) {
                 boolean make = on == 1;
                 dueUnchanged("table " + n, () -> opened(2, 0, 3), x -> x.index(n, 0, make) ? 1 : 0, 0);

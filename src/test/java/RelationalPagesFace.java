@@ -19,13 +19,7 @@ public final class RelationalPagesFace extends Checks {
             "int[]", "long[]", "short[]", "byte[]", "char[]", "boolean[]");
 
     public static void main(String[] args) throws Exception {
-        theClass();
-        theConstants();
-        theConstructor();
-        theMethods();
-        thePrivateMembers();
-        theSource();
-        finish();
+        runAll(RelationalPagesFace.class);
     }
 
     private static void theClass() {

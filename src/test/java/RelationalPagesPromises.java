@@ -1,28 +1,7 @@
 /** For each promise of the document: ordinary inputs, the edges that it names, and wrong inputs. */
 public final class RelationalPagesPromises extends Checks {
-    public static void main(String[] args) {
-        promise1New();
-        promise2Insert();
-        promise2InsertInTransaction();
-        promise3Delete();
-        promise3DeleteInTransaction();
-        promise4Update();
-        promise4UpdateInTransaction();
-        promise5Begin();
-        promise6Commit();
-        promise7Rollback();
-        promise8Crash();
-        promise9Index();
-        promise10Select();
-        promise10SelectWrong();
-        promise11Row();
-        promise12Count();
-        promise13Sum();
-        promise14Join();
-        promise15JoinSum();
-        promise16Distinct();
-        promise17Kth();
-        finish();
+    public static void main(String[] args) throws Exception {
+        runAll(RelationalPagesPromises.class);
     }
 
     private static void promise1New() {
@@ -49,7 +28,7 @@ public final class RelationalPagesPromises extends Checks {
         due("a row alike", x.insert(0, 1, 2, 3), 2);
         due("least numbers", x.insert(1, -99, -99, -99), 1);
         due("greatest numbers", x.insert(2, 99, 99, 99), 1);
-        for (int t : NO_TABLE_OR_COLUMN) {
+        for (int t : outside(0, 2)) {
             due("table " + t, x.insert(t, 0, 0, 0), BAD);
         }
         for (int n : new int[] {-100, 100, MIN, MAX}) {
@@ -72,6 +51,7 @@ public final class RelationalPagesPromises extends Checks {
     }
 
     private static void promise2InsertInTransaction() {
+        about(2, "insert");
         RelationalPages x = new RelationalPages();
         x.begin();
         for (int n = 0; n < 30; n++) {
@@ -103,16 +83,17 @@ public final class RelationalPagesPromises extends Checks {
             due("condition " + condition, y.delete(2, condition, 0), meeting[condition / 3]);
             due("left by condition " + condition, y.count(2, ALL, 0), 6 - meeting[condition / 3]);
         }
-        for (int t : NO_TABLE_OR_COLUMN) {
+        for (int t : outside(0, 2)) {
             due("table " + t, x.delete(t, ALL, 0), BAD);
         }
-        for (int condition : NO_CONDITION) {
+        for (int condition : outside(0, 14)) {
             due("condition " + condition, x.delete(0, condition, 0), BAD);
         }
         dueRows("after wrong inputs", x, 0, 1, 5, 9);
     }
 
     private static void promise3DeleteInTransaction() {
+        about(3, "delete");
         RelationalPages x = new RelationalPages();
         for (int n = 0; n < 16; n++) {
             x.insert(0, n, 0, 0);
@@ -145,10 +126,10 @@ public final class RelationalPagesPromises extends Checks {
         due("set 596", x.update(0, ALL, 0, 596), 3);
         due("column 1 to 42", x.update(0, ALL, 0, set(1, 42)), 3);
         dueRows("all rows", x, 0, -99, 42, 99, -99, 42, 99, -99, 42, 99);
-        for (int t : NO_TABLE_OR_COLUMN) {
+        for (int t : outside(0, 2)) {
             due("table " + t, x.update(t, ALL, 0, 0), BAD);
         }
-        for (int condition : NO_CONDITION) {
+        for (int condition : outside(0, 14)) {
             due("condition " + condition, x.update(0, condition, 0, 0), BAD);
         }
         for (int set : new int[] {-1, 597, MIN, MAX}) {
@@ -159,6 +140,7 @@ public final class RelationalPagesPromises extends Checks {
     }
 
     private static void promise4UpdateInTransaction() {
+        about(4, "update");
         RelationalPages x = new RelationalPages();
         for (int n = 0; n < 16; n++) {
             x.insert(0, n, 0, 0);
@@ -290,7 +272,7 @@ public final class RelationalPagesPromises extends Checks {
                 due("make again", x.index(t, column, true), true);
             }
         }
-        for (int n : NO_TABLE_OR_COLUMN) {
+        for (int n : outside(0, 2)) {
             due("table " + n, x.index(n, 0, true), false);
             due("table " + n, x.index(n, 0, false), false);
             due("column " + n, x.index(0, n, true), false);
@@ -338,13 +320,14 @@ public final class RelationalPagesPromises extends Checks {
     }
 
     private static void promise10SelectWrong() {
+        about(10, "select");
         RelationalPages x = filled(0, 1, 2, 3);
         x.select(0, ALL, 0, 0);
-        for (int n : NO_TABLE_OR_COLUMN) {
+        for (int n : outside(0, 2)) {
             due("table " + n, x.select(n, ALL, 0, 0), BAD);
             due("order " + n, x.select(0, ALL, 0, n), BAD);
         }
-        for (int condition : NO_CONDITION) {
+        for (int condition : outside(0, 14)) {
             due("condition " + condition, x.select(0, condition, 0, 0), BAD);
         }
         dueResult("wrong inputs leave the result", x, 1, 2, 3);
@@ -367,7 +350,7 @@ public final class RelationalPagesPromises extends Checks {
         for (int i : new int[] {-1, 2, MIN, MAX, 1431655766}) {
             due("row " + i, x.row(i, 0), BAD);
         }
-        for (int column : NO_TABLE_OR_COLUMN) {
+        for (int column : outside(0, 2)) {
             due("column " + column, x.row(0, column), BAD);
         }
         x.select(0, 0, 4, 0);
@@ -388,10 +371,10 @@ public final class RelationalPagesPromises extends Checks {
             due("op " + op + " with the least int", x.count(0, 3 * op, MIN), atMin[op]);
             due("op " + op + " with the greatest int", x.count(0, 3 * op, MAX), atMax[op]);
         }
-        for (int t : NO_TABLE_OR_COLUMN) {
+        for (int t : outside(0, 2)) {
             due("table " + t, x.count(t, ALL, 0), BAD);
         }
-        for (int condition : NO_CONDITION) {
+        for (int condition : outside(0, 14)) {
             due("condition " + condition, x.count(0, condition, 0), BAD);
         }
     }
@@ -408,11 +391,11 @@ public final class RelationalPagesPromises extends Checks {
         due("not", x.sum(0, 2, 9, 3), -11);
         due("none meets", x.sum(0, 0, 0, 77), 0);
         due("empty table", x.sum(1, 0, ALL, 0), 0);
-        for (int n : NO_TABLE_OR_COLUMN) {
+        for (int n : outside(0, 2)) {
             due("table " + n, x.sum(n, 0, ALL, 0), BAD);
             due("column " + n, x.sum(0, n, ALL, 0), BAD);
         }
-        for (int condition : NO_CONDITION) {
+        for (int condition : outside(0, 14)) {
             due("condition " + condition, x.sum(0, 0, condition, 0), BAD);
         }
     }
@@ -429,11 +412,11 @@ public final class RelationalPagesPromises extends Checks {
         due("with itself", x.join(0, 0, 0), 5);
         due("with an empty table", x.join(0, 2, 0), 0);
         due("an empty table", x.join(2, 0, 0), 0);
-        for (int n : NO_TABLE_OR_COLUMN) {
+        for (int n : outside(0, 2)) {
             due("table " + n, x.join(n, 0, 0), BAD);
             due("second table " + n, x.join(0, n, 0), BAD);
         }
-        for (int on : NO_PAIR) {
+        for (int on : outside(0, 8)) {
             due("on " + on, x.join(0, 0, on), BAD);
         }
         RelationalPages full = new RelationalPages();
@@ -461,11 +444,11 @@ public final class RelationalPagesPromises extends Checks {
         due("on 4", x.joinSum(0, 1, 4, 6), 11);
         due("with itself", x.joinSum(1, 1, 0, 4), 49 + 49 + 100);
         due("with an empty table", x.joinSum(0, 2, 0, 0), 0);
-        for (int n : NO_TABLE_OR_COLUMN) {
+        for (int n : outside(0, 2)) {
             due("table " + n, x.joinSum(n, 0, 0, 0), BAD);
             due("second table " + n, x.joinSum(0, n, 0, 0), BAD);
         }
-        for (int pair : NO_PAIR) {
+        for (int pair : outside(0, 8)) {
             due("on " + pair, x.joinSum(0, 0, pair, 0), BAD);
             due("of " + pair, x.joinSum(0, 0, 0, pair), BAD);
         }
@@ -480,7 +463,7 @@ public final class RelationalPagesPromises extends Checks {
         due("empty table", x.distinct(1, 0), 0);
         x.delete(0, 0, 2);
         due("one less", x.distinct(0, 0), 2);
-        for (int n : NO_TABLE_OR_COLUMN) {
+        for (int n : outside(0, 2)) {
             due("table " + n, x.distinct(n, 0), BAD);
             due("column " + n, x.distinct(0, n), BAD);
         }
@@ -507,7 +490,7 @@ public final class RelationalPagesPromises extends Checks {
         for (int k : new int[] {-1, MIN, MAX}) {
             due("k " + k, x.kth(0, 0, k), BAD);
         }
-        for (int n : NO_TABLE_OR_COLUMN) {
+        for (int n : outside(0, 2)) {
             due("table " + n, x.kth(n, 0, 0), BAD);
             due("column " + n, x.kth(0, n, 0), BAD);
         }

@@ -2,37 +2,8 @@ import java.util.function.ToIntFunction;
 
 /** The edges that promises 10 to 17 name, sentence by sentence. */
 public final class RelationalPagesReadEdges extends Checks {
-    public static void main(String[] args) {
-        selectMakesTheResult();
-        selectReplacesTheResult();
-        selectOrders();
-        selectOrdersEqualOnes();
-        selectAnswersHowMany();
-        selectIsBad();
-        resultIsNotTheTable();
-        rowOfTheResult();
-        rowOutside();
-        rowOfTheEmptyResult();
-        countRows();
-        countIsBad();
-        sumOfNumbers();
-        sumIsBad();
-        joinPairs();
-        joinOn();
-        joinWithItself();
-        joinOfEmptyTables();
-        joinIsBad();
-        joinSumOfProducts();
-        joinSumOnAndOf();
-        joinSumWithItself();
-        joinSumOfEmptyTables();
-        joinSumIsBad();
-        distinctNumbers();
-        distinctIsBad();
-        kthNumber();
-        kthIsNotThere();
-        kthIsBad();
-        finish();
+    public static void main(String[] args) throws Exception {
+        runAll(RelationalPagesReadEdges.class);
     }
 
     private static void dueReadOnly(ToIntFunction<RelationalPages> call, int want) {
@@ -131,7 +102,7 @@ public final class RelationalPagesReadEdges extends Checks {
             due("all but one", withMany(t, 24).select(t, 9, 0, 2), 23);
             due("a full table", withMany(t, 24).select(t, ALL, 0, 2), 24);
         }
-        for (int v : NO_NUMBER) {
+        for (int v : outside(-99, 99)) {
             due("v " + v + " is no wrong input", withMany(0, 24).select(0, 9, v, 0), 24);
         }
         due("after 30 changes", opened(30, 0, 24).select(0, ALL, 0, 0), 24);
@@ -139,9 +110,9 @@ public final class RelationalPagesReadEdges extends Checks {
 
     private static void selectIsBad() {
         about(10, "BAD, changing nothing, when t or order is not 0 .. 2 or condition is not 0 .. 14");
-        dueBad("table", NO_TABLE_OR_COLUMN, (x, n) -> x.select(n, ALL, 0, 0));
-        dueBad("order", NO_TABLE_OR_COLUMN, (x, n) -> x.select(0, ALL, 0, n));
-        dueBad("condition", NO_CONDITION, (x, n) -> x.select(0, n, 0, 0));
+        dueRange("table", 0, 2, (x, n) -> x.select(n, ALL, 0, 0));
+        dueRange("order", 0, 2, (x, n) -> x.select(0, ALL, 0, n));
+        dueRange("condition", 0, 14, (x, n) -> x.select(0, n, 0, 0));
         due("table 2", withMany(2, 3).select(2, ALL, 0, 0), 3);
         due("order 2", withMany(0, 3).select(0, ALL, 0, 2), 3);
         due("condition 0", withMany(0, 3).select(0, 0, 2, 0), 1);
@@ -193,8 +164,8 @@ public final class RelationalPagesReadEdges extends Checks {
                 due("column " + column + " after the last", x.row(size, column), BAD);
             }
         }
-        dueBad("row", new int[] {MIN, -1, 24, MAX}, (x, n) -> x.row(n, 0));
-        dueBad("column", NO_TABLE_OR_COLUMN, (x, n) -> x.row(0, n));
+        dueRange("row", 0, 2, (x, n) -> x.row(n, 0));
+        dueRange("column", 0, 2, (x, n) -> x.row(0, n));
     }
 
     private static void rowOfTheEmptyResult() {
@@ -220,7 +191,7 @@ public final class RelationalPagesReadEdges extends Checks {
             due("a full table", withMany(t, 24).count(t, ALL, 0), 24);
             due("another table", withMany(t, 24).count((t + 1) % 3, ALL, 0), 0);
         }
-        for (int v : NO_NUMBER) {
+        for (int v : outside(-99, 99)) {
             due("v " + v + " is no wrong input", withMany(0, 24).count(0, 9, v), 24);
         }
         due("after 30 changes", opened(30, 0, 24).count(0, ALL, 0), 24);
@@ -229,8 +200,8 @@ public final class RelationalPagesReadEdges extends Checks {
 
     private static void countIsBad() {
         about(12, "BAD when t is not 0 .. 2 or condition is not 0 .. 14");
-        dueBad("table", NO_TABLE_OR_COLUMN, (x, n) -> x.count(n, ALL, 0));
-        dueBad("condition", NO_CONDITION, (x, n) -> x.count(0, n, 0));
+        dueRange("table", 0, 2, (x, n) -> x.count(n, ALL, 0));
+        dueRange("condition", 0, 14, (x, n) -> x.count(0, n, 0));
         due("condition 0", withMany(0, 3).count(0, 0, 2), 1);
         due("condition 14", withMany(0, 3).count(0, 14, 2), 3);
     }
@@ -256,6 +227,9 @@ public final class RelationalPagesReadEdges extends Checks {
             due("the last", withMany(t, 24).sum(t, 2, 6, 22), -23);
             due("another column in the condition", withMany(t, 24).sum(t, 0, 5, -20), 66);
         }
+        for (int v : outside(-99, 99)) {
+            due("v " + v + " is no wrong input", withMany(0, 24).sum(0, 0, 9, v), 276);
+        }
         due("1 over", filled(0, 99, 0, 0, -98, 0, 0).sum(0, 0, ALL, 0), 1);
         due("after 30 changes", opened(30, 0, 24).sum(0, 0, ALL, 0), 276);
         dueReadOnly(x -> x.sum(0, 0, ALL, 0), 3);
@@ -263,10 +237,10 @@ public final class RelationalPagesReadEdges extends Checks {
 
     private static void sumIsBad() {
         about(13, "BAD as in count, or when column is not 0 .. 2");
-        dueBad("table", NO_TABLE_OR_COLUMN, (x, n) -> x.sum(n, 0, ALL, 0));
-        dueBad("column", NO_TABLE_OR_COLUMN, (x, n) -> x.sum(0, n, ALL, 0));
-        dueBad("column, when none meets,", NO_TABLE_OR_COLUMN, (x, n) -> x.sum(0, n, 0, 77));
-        dueBad("condition", NO_CONDITION, (x, n) -> x.sum(0, 0, n, 0));
+        dueRange("table", 0, 2, (x, n) -> x.sum(n, 0, ALL, 0));
+        dueRange("column", 0, 2, (x, n) -> x.sum(0, n, ALL, 0));
+        dueRange("column, when none meets,", 0, 2, (x, n) -> x.sum(0, n, 0, 77));
+        dueRange("condition", 0, 14, (x, n) -> x.sum(0, 0, n, 0));
         due("condition 0", withMany(0, 3).sum(0, 0, 0, 2), 2);
         due("condition 14", withMany(0, 3).sum(0, 2, 14, 2), -3);
     }
@@ -327,11 +301,11 @@ public final class RelationalPagesReadEdges extends Checks {
 
     private static void joinIsBad() {
         about(14, "BAD when t or u is not 0 .. 2 or on is not 0 .. 8");
-        dueBad("first table", NO_TABLE_OR_COLUMN, (x, n) -> x.join(n, 0, 0));
-        dueBad("second table", NO_TABLE_OR_COLUMN, (x, n) -> x.join(0, n, 0));
-        dueBad("second table, the first being empty,", NO_TABLE_OR_COLUMN, (x, n) -> x.join(1, n, 0));
-        dueBad("on", NO_PAIR, (x, n) -> x.join(0, 0, n));
-        dueBad("on, both empty,", NO_PAIR, (x, n) -> x.join(1, 1, n));
+        dueRange("first table", 0, 2, (x, n) -> x.join(n, 0, 0));
+        dueRange("second table", 0, 2, (x, n) -> x.join(0, n, 0));
+        dueRange("second table, the first being empty,", 0, 2, (x, n) -> x.join(1, n, 0));
+        dueRange("on", 0, 8, (x, n) -> x.join(0, 0, n));
+        dueRange("on, both empty,", 0, 8, (x, n) -> x.join(1, 1, n));
         due("on 8", withMany(0, 3).join(0, 0, 8), 3);
     }
 
@@ -393,12 +367,12 @@ public final class RelationalPagesReadEdges extends Checks {
 
     private static void joinSumIsBad() {
         about(15, "BAD as in join, or when of is not 0 .. 8");
-        dueBad("first table", NO_TABLE_OR_COLUMN, (x, n) -> x.joinSum(n, 0, 0, 0));
-        dueBad("second table", NO_TABLE_OR_COLUMN, (x, n) -> x.joinSum(0, n, 0, 0));
-        dueBad("second table, the first being empty,", NO_TABLE_OR_COLUMN, (x, n) -> x.joinSum(1, n, 0, 0));
-        dueBad("on", NO_PAIR, (x, n) -> x.joinSum(0, 0, n, 0));
-        dueBad("of", NO_PAIR, (x, n) -> x.joinSum(0, 0, 0, n));
-        dueBad("of, both empty,", NO_PAIR, (x, n) -> x.joinSum(1, 1, 0, n));
+        dueRange("first table", 0, 2, (x, n) -> x.joinSum(n, 0, 0, 0));
+        dueRange("second table", 0, 2, (x, n) -> x.joinSum(0, n, 0, 0));
+        dueRange("second table, the first being empty,", 0, 2, (x, n) -> x.joinSum(1, n, 0, 0));
+        dueRange("on", 0, 8, (x, n) -> x.joinSum(0, 0, n, 0));
+        dueRange("of", 0, 8, (x, n) -> x.joinSum(0, 0, 0, n));
+        dueRange("of, both empty,", 0, 8, (x, n) -> x.joinSum(1, 1, 0, n));
         due("on 8 and of 8", withMany(0, 3).joinSum(0, 0, 8, 8), 5);
     }
 
@@ -424,8 +398,8 @@ public final class RelationalPagesReadEdges extends Checks {
 
     private static void distinctIsBad() {
         about(16, "BAD when t or column is not 0 .. 2");
-        dueBad("table", NO_TABLE_OR_COLUMN, (x, n) -> x.distinct(n, 0));
-        dueBad("column", NO_TABLE_OR_COLUMN, (x, n) -> x.distinct(0, n));
+        dueRange("table", 0, 2, (x, n) -> x.distinct(n, 0));
+        dueRange("column", 0, 2, (x, n) -> x.distinct(0, n));
         due("column 2", withMany(0, 3).distinct(0, 2), 3);
     }
 
@@ -463,7 +437,7 @@ public final class RelationalPagesReadEdges extends Checks {
 
     private static void kthIsBad() {
         about(17, "or t or column is not 0 .. 2");
-        dueBad("table", NO_TABLE_OR_COLUMN, (x, n) -> x.kth(n, 0, 0));
-        dueBad("column", NO_TABLE_OR_COLUMN, (x, n) -> x.kth(0, n, 0));
+        dueRange("table", 0, 2, (x, n) -> x.kth(n, 0, 0));
+        dueRange("column", 0, 2, (x, n) -> x.kth(0, n, 0));
     }
 }

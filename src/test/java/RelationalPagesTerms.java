@@ -2,37 +2,8 @@ import java.util.function.ToIntFunction;
 
 /** The edges that the sections "What it is" and "Terms" name, sentence by sentence. */
 public final class RelationalPagesTerms extends Checks {
-    public static void main(String[] args) {
-        manyCallsOfOneKind();
-        manyTransactions();
-        fillingAndEmptying();
-        tables();
-        atMost24Rows();
-        numbersInColumns();
-        rowsAlike();
-        conditionOfColumnAndOp();
-        equal();
-        less();
-        greater();
-        not();
-        everyRow();
-        puttingIn();
-        takingOut();
-        writing();
-        writingWhatWasThere();
-        noChange();
-        openBetween();
-        atMost30Changes();
-        changesOfAllTablesCount();
-        changesOutsideDoNotCount();
-        rollingBack();
-        rollingBackEdges();
-        breakdown();
-        breakdownEdges();
-        notLostBefore();
-        notLostOutside();
-        emptyResultAtFirst();
-        finish();
+    public static void main(String[] args) throws Exception {
+        runAll(RelationalPagesTerms.class);
     }
 
     private static void manyCallsOfOneKind() {
@@ -56,6 +27,7 @@ public final class RelationalPagesTerms extends Checks {
         due("result after 510 selections", selects.row(0, 0), 0);
         due("rows after 510 breakdowns", crashes.count(0, ALL, 0), 1);
         due("changes after 510 calls of begin", begins.commit(), 0);
+        due("begin as call 512", begins.begin(), true);
         due("number after 510 updates", updates.kth(0, 0, 0), 10);
     }
 

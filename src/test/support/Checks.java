@@ -1,3 +1,7 @@
+import java.lang.reflect.InvocationTargetException;
+import java.lang.reflect.Method;
+import java.util.Arrays;
+import java.util.Comparator;
 import java.util.function.Supplier;
 import java.util.function.ToIntFunction;
 
@@ -9,11 +13,6 @@ class Checks {
     static final int MAX = Integer.MAX_VALUE;
     /** The condition that every row meets. */
     static final int ALL = 12;
-    static final int[] NO_TABLE_OR_COLUMN = {MIN, -1, 3, MAX};
-    static final int[] NO_CONDITION = {MIN, -1, 15, MAX};
-    static final int[] NO_NUMBER = {MIN, -100, 100, MAX};
-    static final int[] NO_SET = {MIN, -1, 597, MAX};
-    static final int[] NO_PAIR = {MIN, -1, 9, MAX};
 
     /** A call of which one argument, n, is tried with different numbers. */
     interface Call {
@@ -39,10 +38,34 @@ class Checks {
         }
     }
 
-    static void finish() {
-        System.out.println(wrong == 0 ? "all answers are as due" : wrong + " answers are not as due");
-        if (wrong != 0) {
+    /**
+     * Runs every method of the class that takes and answers nothing, so that none can be forgotten.
+     * One that throws does not keep the others from running.
+     */
+    static void runAll(Class<?> tests) throws IllegalAccessException {
+        Method[] methods = tests.getDeclaredMethods();
+        Arrays.sort(methods, Comparator.comparing(Method::getName));
+        int ran = 0;
+        for (Method method : methods) {
+            if (method.getParameterCount() == 0 && method.getReturnType() == void.class && !method.isSynthetic()) {
+                ran++;
+                runOne(method);
+            }
+        }
+        System.out.println(ran + " tests, " + wrong + " answers that are not as due");
+        if (wrong != 0 || ran == 0) {
             System.exit(1);
+        }
+    }
+
+    private static void runOne(Method test) throws IllegalAccessException {
+        place = test.getName();
+        try {
+            test.setAccessible(true);
+            test.invoke(null);
+        } catch (InvocationTargetException thrown) {
+            wrong++;
+            System.out.println(place + ": " + test.getName() + " threw " + thrown.getCause());
         }
     }
 
@@ -112,9 +135,18 @@ class Checks {
         due(what + ": what is to be seen afterwards", stateOf(x), stateOf(make.get()));
     }
 
-    /** Looks whether the call is refused with each of the wrong numbers, and changes nothing then. */
-    static void dueBad(String what, int[] wrong, Call call) {
-        for (int n : wrong) {
+    /** Numbers just outside a range, and as far outside as can be. */
+    static int[] outside(int least, int greatest) {
+        return new int[] {MIN, least - 1, greatest + 1, MAX};
+    }
+
+    /** Looks whether the call takes n from least to greatest, refuses others and changes nothing then. */
+    static void dueRange(String what, int least, int greatest, Call call) {
+        for (int n : new int[] {least, greatest}) {
+            int answer = call.answer(selected(opened(2, 0, 3)), n);
+            due(what + " " + n + " is refused", answer == BAD || answer == FULL, false);
+        }
+        for (int n : outside(least, greatest)) {
             dueUnchanged(what + " " + n, () -> selected(opened(2, 0, 3)), x -> call.answer(x, n), BAD);
             dueUnchanged(what + " " + n + ", full table", () -> withMany(0, 24), x -> call.answer(x, n), BAD);
             dueUnchanged(what + " " + n + ", new object", RelationalPages::new, x -> call.answer(x, n), BAD);
