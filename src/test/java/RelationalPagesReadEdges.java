@@ -134,6 +134,22 @@ public final class RelationalPagesReadEdges extends Checks {
         dueResult("after a rollback", x, 0, 0, 0, 1, 0, -1);
     }
 
+    private static void resultOutlastsItsTransaction() {
+        about("Terms", "Rolling it back brings all three tables back");
+        RelationalPages x = withMany(0, 1);
+        x.begin();
+        x.insert(0, 7, 8, 9);
+        x.select(0, ALL, 0, 0);
+        x.rollback();
+        dueResult("after a rollback", x, 0, 0, 0, 7, 8, 9);
+        due("rows after a rollback", x.count(0, ALL, 0), 1);
+        x.begin();
+        x.insert(0, 4, 5, 6);
+        x.select(0, ALL, 0, 0);
+        x.commit();
+        dueResult("after a commit", x, 0, 0, 0, 4, 5, 6);
+    }
+
     private static void rowOfTheResult() {
         about(11, "The number in a column of row i (0 the first) of the result");
         RelationalPages x = withMany(0, 24);
